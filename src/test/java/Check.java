@@ -1,16 +1,43 @@
-/** Counts and prints the answers that are not the ones that are due. */
+/** Prints every answer that is not the one that is due, with the document's sentence it breaks. */
 final class Check {
-    private static int wrong = 0;
+    static final long NOT_SEEN = 10000000000L;
+    static final int MIN = Integer.MIN_VALUE;
+    static final int MAX = Integer.MAX_VALUE;
+
+    /** Ints around 0 and at the ends of a byte, a short and an int: a place too small changes one. */
+    static final int[] INTS = {
+        MIN, MIN + 1, -32769, -32768, -129, -128, -1, 0, 1, 127, 128, 255, 256, 32767, 32768, 65535,
+        65536, MAX - 1, MAX};
+
+    /** One fault may show in very many answers. */
+    private static final int MOST_PRINTED = 100;
+
+    private static String sentence = "";
     private static int asked = 0;
+    private static int wrong = 0;
 
     private Check() {
+    }
+
+    /** The sentence of the document that the answers from here on are due by, in its own words. */
+    static void sentence(String words) {
+        sentence = words;
     }
 
     static void due(String call, long got, long want) {
         asked++;
         if (got != want) {
             wrong++;
-            System.out.println(call + " answered " + got + ", due is " + want);
+            print(call + " answered " + got + ", due is " + want
+                    + (sentence.isEmpty() ? "" : " by: " + sentence));
+        }
+    }
+
+    private static void print(String line) {
+        if (wrong <= MOST_PRINTED) {
+            System.out.println(line);
+        } else if (wrong == MOST_PRINTED + 1) {
+            System.out.println("..");
         }
     }
 
@@ -18,11 +45,46 @@ final class Check {
         due(call, got ? 1L : 0L, want ? 1L : 0L);
     }
 
-    /** The five counts of state, in their order. */
-    static void state(String when, SegmentStore x, int... want) {
-        for (int what = 0; what < want.length; what++) {
-            due(when + ": state(" + what + ")", x.state(what), want[what]);
+    /** The answer of the last call on any Store. */
+    static void due(long got, long want) {
+        if (got == want) {
+            asked++;
+        } else {
+            due(line() + Store.lastCall(), got, want);
         }
+    }
+
+    static void due(boolean got, boolean want) {
+        due(got ? 1L : 0L, want ? 1L : 0L);
+    }
+
+    /** The counts of state, in their order. */
+    static void state(Store x, int... want) {
+        for (int what = 0; what < want.length; what++) {
+            due(x.state(what), want[what]);
+        }
+    }
+
+    /** The line of the test that asked, as a run of calls may ask the same many times. */
+    private static String line() {
+        StackTraceElement last = null;
+        for (StackTraceElement frame : new Throwable().getStackTrace()) {
+            if (!frame.getClassName().equals("Check")) {
+                last = frame;
+                break;
+            }
+        }
+        return last == null ? "" : last.getFileName() + ":" + last.getLineNumber() + " ";
+    }
+
+    /**
+     * The numbers next to a range, the ends of int, and numbers that would fall into the range if
+     * they were cut to a byte or a short, or multiplied by a power of 2 before they are looked at.
+     */
+    static int[] outside(int least, int most) {
+        return new int[] {
+            least - 1, most + 1, MIN, MAX, most - 256, least + 256, most - 65536, least + 65536,
+            least + (1 << 29), least + (1 << 30), least + MIN};
     }
 
     static int wrong() {
@@ -31,7 +93,7 @@ final class Check {
 
     static void end() {
         System.out.println(asked + " answers, " + wrong + " not as due");
-        if (wrong != 0) {
+        if (wrong != 0 || asked == 0) {
             System.exit(1);
         }
     }

@@ -6,7 +6,7 @@ import java.util.Arrays;
 import java.util.Set;
 import java.util.TreeSet;
 
-/** The public face of the document, and promise 1: a new object. */
+/** The public face of the document: its constants, constructor and methods, and no others. */
 public final class FaceTest {
     private static final Set<String> METHODS = new TreeSet<>(Arrays.asList(
             "int begin[]",
@@ -29,8 +29,6 @@ public final class FaceTest {
     public static void main(String[] args) {
         constants();
         members();
-        newObject();
-        objectsAreApart();
         Check.end();
     }
 
@@ -75,41 +73,5 @@ public final class FaceTest {
         Check.due("constructors", constructors.length, 1);
         Check.due("constructor is public", Modifier.isPublic(constructors[0].getModifiers()), true);
         Check.due("constructor takes", constructors[0].getParameterCount(), 0);
-    }
-
-    private static void newObject() {
-        SegmentStore x = new SegmentStore();
-        Check.state("new", x, 0, 0, 0, 0, 0);
-        for (int t = -2; t <= 4; t++) {
-            Check.due("new: commit " + t, x.commit(t), SegmentStore.NONE);
-            Check.due("new: abort " + t, x.abort(t), false);
-            Check.due("new: insert " + t, x.insert(t, 1, 2, 3), SegmentStore.NONE);
-            Check.due("new: update " + t, x.update(t, 0, 0, 1), SegmentStore.NONE);
-            Check.due("new: remove " + t, x.remove(t, 0), SegmentStore.NONE);
-            Check.due("new: cell " + t, x.cell(t, 0, 0), 10000000000L);
-            Check.due("new: order " + t, x.order(t, 0, 0), -1);
-            Check.due("new: rank " + t, x.rank(t, 0, 0), -1);
-            for (int what = 0; what <= 4; what++) {
-                Check.due("new: ask " + t + " " + what, x.ask(t, what, 0), 0);
-                Check.due("new: group " + t + " " + what, x.group(t, 0, 0, what, 0), 0);
-            }
-        }
-        Check.state("still new", x, 0, 0, 0, 0, 0);
-        x.begin();
-        x.insert(0, Integer.MIN_VALUE, 0, Integer.MAX_VALUE);
-        Check.due("no conditions", x.ask(0, 0, 0), 1);
-    }
-
-    private static void objectsAreApart() {
-        SegmentStore x = new SegmentStore();
-        x.begin();
-        x.insert(0, 1, 2, 3);
-        x.where(0, 0, 5, 6);
-        x.commit(0);
-        SegmentStore y = new SegmentStore();
-        Check.state("another object", y, 0, 0, 0, 0, 0);
-        Check.due("another begin()", y.begin(), 0);
-        Check.due("another insert", y.insert(0, 1, 2, 3), 0);
-        Check.due("another ask", y.ask(0, 0, 0), 1);
     }
 }

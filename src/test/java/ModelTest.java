@@ -2,7 +2,8 @@ import java.util.Random;
 
 /**
  * All promises together: long runs of calls, the same in every run of this test, on the store and
- * on the model. Behind the 512th call the store has still to answer something, and not to throw.
+ * on the model. In some of them pack is called behind every other call. Behind the 512th call the
+ * store has still to answer something, and not to throw.
  */
 public final class ModelTest {
     private static final int RUNS = 3000;
@@ -18,10 +19,12 @@ public final class ModelTest {
     private final SegmentStore store = new SegmentStore();
     private final Model model = new Model();
     private final int[] seenAnswers;
+    private final boolean packed;
 
     private ModelTest(int seed, int[] seenAnswers) {
         this.random = new Random(seed);
         this.seenAnswers = seenAnswers;
+        this.packed = seed % 5 == 0;
         // begin, insert, update, remove, commit, abort, where, ask, group, order, rank, cell,
         // pack, state
         int[][] mixes = {
@@ -38,7 +41,8 @@ public final class ModelTest {
         int[] seenAnswers = new int[4];
         for (int seed = 0; seed < RUNS && Check.wrong() < 20; seed++) {
             ModelTest run = new ModelTest(seed, seenAnswers);
-            for (int i = 0; i < CALLS && Check.wrong() < 20; i++) {
+            int calls = run.packed ? CALLS / 2 : CALLS;
+            for (int i = 0; i < calls && Check.wrong() < 20; i++) {
                 run.call("seed " + seed + " call " + i + ": ", true);
             }
             if (seed % 50 == 0) {
@@ -105,6 +109,9 @@ public final class ModelTest {
         }
         long want = ofModel(arguments);
         Check.due(at + java.util.Arrays.toString(arguments), got, want);
+        if (packed) {
+            store.pack();
+        }
         if (kind == 4 && want <= 0 && want >= -3) {
             seenAnswers[(int) -want]++;
         }
