@@ -49,7 +49,8 @@ public final class P13CellTest {
     }
 
     private static void whatItMade() {
-        Check.sentence("It SEES, of rows that it changed, what it made of them");
+        Check.sentence("It SEES, of rows that it changed, what it made of them (Their new ints, or "
+                + "that they are gone.)");
         Store x = Scenes.filled(3);
         x.begin();
         x.update(0, 1, 1, 50);

@@ -8,6 +8,7 @@ public final class P14PackTest {
         ofForty();
         beforeAConflict();
         behindEachEnd();
+        beforeALaterRow();
         againAndAgain();
         Check.end();
     }
@@ -125,6 +126,32 @@ public final class P14PackTest {
             x.abort(0);
             x.commit(3);
         });
+    }
+
+    /** 1 began behind the end of row 0 and before row 1; 0 saw row 0 and is open no more. */
+    private static void laterRow(Store x) {
+        Scenes.fill(x, 1);
+        x.begin();
+        x.begin();
+        x.remove(1, 0);
+        Check.due(x.commit(1), Store.OK);
+        x.begin();
+        x.begin();
+        Check.due(x.insert(2, 5, 6, 7), 1);
+        Check.due(x.commit(2), Store.OK);
+        Check.due(x.abort(0), true);
+    }
+
+    private static void beforeALaterRow() {
+        Check.sentence("no answer depends on it. (What began later is not seen any earlier.)");
+        unchanged(P14PackTest::laterRow);
+        Store x = new Store();
+        laterRow(x);
+        x.pack();
+        Check.due(x.cell(1, 1, 0), Check.NOT_SEEN);
+        Check.due(x.ask(1, 0, 0), 0);
+        Check.due(x.update(1, 1, 0, 9), Store.NONE);
+        Check.due(x.cell(-1, 1, 0), 5);
     }
 
     private static void againAndAgain() {

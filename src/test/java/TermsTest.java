@@ -11,6 +11,7 @@ public final class TermsTest {
         start();
         atMostEightChanges();
         sees();
+        seesNoLaterRows();
         insertedAndRemovedAreNoChanges();
         conflictOfEachKind();
         noConflictAtItsStart();
@@ -256,6 +257,30 @@ public final class TermsTest {
         Check.due(x.ask(0, 0, 0), 5);
         Check.due(x.ask(0, 1, 0), 50 + 2 + 3 + 4 + 60);
         Check.due(x.ask(-1, 1, 0), 1 + 71 + 4 + 72);
+    }
+
+    private static void seesNoLaterRows() {
+        Check.sentence("of the others those that are there at its START (However old ones end.)");
+        Store x = Scenes.filled(1);
+        Check.due(x.begin(), 0);
+        Check.due(x.begin(), 1);
+        x.remove(1, 0);
+        Check.due(x.commit(1), Store.OK);
+        Check.due(x.begin(), 1);
+        for (int i = 1; i < 20; i++) {
+            Check.due(x.begin(), 2);
+            Check.due(x.insert(2, i, i, i), i);
+            Check.due(x.commit(2), Store.OK);
+            if (i == 10) {
+                Check.due(x.abort(0), true);
+                Check.due(x.begin(), 0);
+            }
+            Check.due(x.ask(0, 0, 0), i < 10 ? 1 : 10);
+            Check.due(x.ask(1, 0, 0), 0);
+            Check.due(x.cell(1, i, 0), Check.NOT_SEEN);
+            Check.due(x.cell(0, i, 0), i == 10 ? 10 : Check.NOT_SEEN);
+            Check.due(x.cell(-1, i, 0), i);
+        }
     }
 
     private static void insertedAndRemovedAreNoChanges() {
