@@ -1,3 +1,5 @@
+import java.util.Arrays;
+
 /** Prints every answer that is not the one that is due, with the document's sentence it breaks. */
 final class Check {
     static final long NOT_SEEN = 10000000000L;
@@ -78,13 +80,22 @@ final class Check {
     }
 
     /**
-     * The numbers next to a range, the ends of int, and numbers that would fall into the range if
-     * they were cut to a byte or a short, or multiplied by a power of 2 before they are looked at.
+     * Numbers far from one that would be taken for it if they were cut to a byte or a short, or
+     * multiplied by a power of 2, before they are looked at.
      */
-    static int[] outside(int least, int most) {
+    static int[] farFrom(int number) {
         return new int[] {
-            least - 1, most + 1, MIN, MAX, most - 256, least + 256, most - 65536, least + 65536,
-            least + (1 << 29), least + (1 << 30), least + MIN};
+            number - 256, number + 256, number - 65536, number + 65536, number + (1 << 29),
+            number + (1 << 30), number + MIN};
+    }
+
+    /** The numbers next to a range, the ends of int, and those far from the ends of the range. */
+    static int[] outside(int least, int most) {
+        int[] near = {least - 1, most + 1, MIN, MAX};
+        int[] all = Arrays.copyOf(near, near.length + 14);
+        System.arraycopy(farFrom(least), 0, all, near.length, 7);
+        System.arraycopy(farFrom(most), 0, all, near.length + 7, 7);
+        return all;
     }
 
     static int wrong() {

@@ -139,6 +139,11 @@ public final class P04UpdateTest {
         for (int row : Check.outside(0, rows - 1)) {
             Unchanged.by(Scenes::busy, x -> x.update(1, row, 0, 9), Store.NONE);
         }
+        for (int row : new int[] {1, 3, 14}) {
+            for (int far : Check.farFrom(row)) {
+                Unchanged.by(Scenes::busy, x -> x.update(1, far, 0, 9), Store.NONE);
+            }
+        }
         Store x = new Store();
         x.begin();
         Check.due(x.update(0, 0, 0, 9), Store.NONE);

@@ -98,6 +98,11 @@ public final class P05RemoveTest {
         for (int row : Check.outside(0, rows - 1)) {
             Unchanged.by(Scenes::busy, x -> x.remove(1, row), Store.NONE);
         }
+        for (int row : new int[] {1, 3, 14}) {
+            for (int far : Check.farFrom(row)) {
+                Unchanged.by(Scenes::busy, x -> x.remove(1, far), Store.NONE);
+            }
+        }
         Store x = new Store();
         x.begin();
         Check.due(x.remove(0, 0), Store.NONE);

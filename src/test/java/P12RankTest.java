@@ -84,6 +84,11 @@ public final class P12RankTest {
             Check.due(x.rank(-1, 0, 5), 5);
             Unchanged.by(Questions::table, y -> y.rank(-1, 0, row), -1);
         }
+        for (int row : new int[] {1, 3, 14}) {
+            for (int far : Check.farFrom(row)) {
+                Unchanged.by(Scenes::busy, y -> y.rank(1, 0, far), -1);
+            }
+        }
         Store x = new Store();
         Check.due(x.rank(-1, 0, 0), -1);
         x.begin();

@@ -102,6 +102,11 @@ public final class P13CellTest {
             Check.due(x.cell(-1, 5, 2), 7);
             Unchanged.by(Questions::table, y -> y.cell(-1, row, 0), Check.NOT_SEEN);
         }
+        for (int row : new int[] {1, 3, 14}) {
+            for (int far : Check.farFrom(row)) {
+                Unchanged.by(Scenes::busy, y -> y.cell(1, far, 0), Check.NOT_SEEN);
+            }
+        }
         Store x = new Store();
         Check.due(x.cell(-1, 0, 0), Check.NOT_SEEN);
         x.begin();
